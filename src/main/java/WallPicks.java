@@ -870,8 +870,8 @@ public final class WallPicks {
 
         private final Wall wall;
         private final int[] takers = new int[BOYS];
-        // Of a state the stamp under which it was reckoned, above the state that it comes to:
-        // a new stamp makes all of them old without a loop over them.
+        // Of a state the stamp under which it was reckoned, above the state that it comes to: a new
+        // stamp makes all of them old without a loop (one too great for the bits finds none again).
         private final int[] reckoned = new int[STATES];
         private int stamp;
         private int version = -1;
@@ -892,17 +892,7 @@ public final class WallPicks {
                 takers[t] = taker;
             }
             version = wall.version;
-            if (!same) {
-                renew();
-            }
-        }
-
-        private void renew() {
-            stamp++;
-            if (stamp >= STATES) {
-                Arrays.fill(reckoned, 0);
-                stamp = 1;
-            }
+            stamp += same ? 0 : 1;
         }
 
         int stateNow() {
@@ -924,7 +914,7 @@ public final class WallPicks {
                 if ((left >> boy & 1) == 1) {
                     int end = endOf(with(state, boy, captain), depth + 1);
                     int worth = wall.worthTo(captain, sideIn(end, captain));
-                    if (chosen < 0 || worth > most) {
+                    if (worth > most) {
                         chosen = boy;
                         most = worth;
                     }
@@ -1031,7 +1021,7 @@ public final class WallPicks {
             for (int boy = 0; boy < BOYS; boy++) {
                 if ((among >> boy & 1) == 1) {
                     int worth = wall.worthTo(captain, side | 1 << boy);
-                    if (chosen < 0 || worth > most) {
+                    if (worth > most) {
                         chosen = boy;
                         most = worth;
                     }
@@ -1162,7 +1152,7 @@ public final class WallPicks {
                 int other = all & ~side;
                 int left = wall.worthTo(b, side) >= wall.worthTo(b, other) ? other : side;
                 int worth = wall.worthTo(a, left);
-                if (side == 0 || worth > most) {
+                if (worth > most) {
                     most = worth;
                     firstSide = side;
                     cuttersSide = left;

@@ -282,7 +282,7 @@ public final class PromisesTest {
             {"", 0}, {"x", 0}, {" mark 1 p=1", 0}, {"M", 0}, {"m", 1}, {"mork", 1}, {"mark", 4}, {"mark5", 4},
             {"bot ", 3}, {"both5", 4}, {"l", 1}, {"lacc", 3}, {"mark 4", 6}, {"mark  4", 5}, {"mark -4", 5},
             {"mark 05 p=1", 6}, {"mark 100 p=1", 7}, {"mark 5  p=1", 7}, {"mark 5 ", 7}, {"mark 5 q=1", 7},
-            {"mark 5 p~1", 8}, {"mark 5 p", 8}, {"mark 5 p=", 9}, {"mark 5 p==", 9}, {"mark 5 p=05", 10},
+            {"mark 5 p~1", 8}, {"mark 5 p;1", 8}, {"mark 5 p?1", 8}, {"mark 5 p", 8}, {"mark 5 p=", 9}, {"mark 5 p==", 9}, {"mark 5 p=05", 10},
             {"mark 5 p=123", 11}, {"mark 5 p=1)", 10}, {"mark 5 (p=1", 11}, {"mark 5 ()", 8}, {"mark 5 p=1 ", 10},
             {"mark 5 p=1|", 11}, {"mark 5 p=1&&p=1", 11}, {"mark 5 |p=1", 7}, {"mark 5 (p=1;", 11},
             {"mark 5 !!!!!!p=1", 12}, {"mark 5 ((((((p=1))))))", 12}, {"mark 5 (!(!(p=1))&!!!(!p=1))", 22},
@@ -498,6 +498,16 @@ public final class PromisesTest {
         due("of all, if none is left", x.picks(0), 1);
         x.way(1, 5);
         due("told, none of his list is left", x.picks(1), 1);
+        x.give(0, -1);
+        x.give(1, 0);
+        x.give(2, 0);
+        for (int kind = 0; kind < 7; kind++) {
+            x.way(0, kind);
+            due("the last one left", x.picks(0), 0);
+        }
+        x.give(0, 1);
+        x.give(1, -1);
+        x.give(2, -1);
         x.give(1, 0);
         x.give(2, 0);
         for (int kind = 0; kind < 7; kind++) {
@@ -536,6 +546,10 @@ public final class PromisesTest {
         due("best out of his turn: he is the next one, too", x.picks(1), 0);
         x.turns(1);
         due("best by turns", x.picks(0), 0);
+        x = wallOf(4, 4, 5);
+        x.way(0, 4);
+        x.turns(1);
+        due("best: he has no other turn", x.picks(0), 2);
     }
 
     private static void picksOfKind() {
@@ -562,6 +576,17 @@ public final class PromisesTest {
         x.play(2);
         x.way(0, 6);
         due("as greedy of like ones", x.picks(0), 2);
+        x = wallOf(9, 8);
+        x.game(true);
+        x.play(2);
+        x.way(0, 6);
+        due("not the one who never was", x.picks(0), 1);
+        x = wallOf(1, 2);
+        told(x, 0, 1);
+        x.game(true);
+        x.play(2);
+        x.way(0, 6);
+        due("boy 0 was", x.picks(0), 0);
     }
 
     private static void games() {
@@ -590,6 +615,14 @@ public final class PromisesTest {
         for (int i = 0; i < 12; i++) {
             due("game", x.game(true), 2);
             due("summers", x.count(3), i + 1);
+        }
+        x = wallOf(1);
+        x.game(true);
+        due("one boy is a summer", x.count(3), 1);
+        due("one boy was the last", x.last(0), 1);
+        x = wallOf(1, 2);
+        for (int i = 0; i < 12; i++) {
+            x.game(true);
         }
         x.way(0, 1);
         due("the game goes", x.game(true), 2);
@@ -635,10 +668,25 @@ public final class PromisesTest {
         due("then 1 again", x.value(0), 0);
         due("doesn't play", x.value(2), -1001);
         due("no captain", x.value(-1), -1001);
+        settle(x, 1, "mark 10 n=1");
+        due("a new yard", x.value(1), 23);
+        x.boy(0, 20, -1);
+        due("a new boy", x.value(1), 39);
+        x.image();
+        x.has(1, -1);
+        due("no yard", x.value(1), 29);
+        x.undo();
+        due("as it was", x.value(1), 39);
+        x = wallOf(5, 4, 4);
+        x.turns(2);
         x.play(3);
         due("plays, has no turn", x.value(2), 0);
         x.turns(0);
         due("plays", x.value(2), 4);
+        x.give(0, 2);
+        due("has the first, the third is his, too", x.value(2), 9);
+        due("has the second", x.value(1), 4);
+        due("has none", x.value(0), 0);
     }
 
     private static void rows() {
@@ -691,6 +739,15 @@ public final class PromisesTest {
         x.turns(1);
         x.row(1);
         judgedAre(x, NOBODY, 0, 1);
+        x.row(-1);
+        x.row(5);
+        x.row(0);
+        x.row(6);
+        judgedAre(x, 0, NOBODY, 0);
+        x = wallOf(9, 5, 4, 1);
+        x.row(3);
+        x.row(2);
+        judgedAre(x, NOBODY, 0, 7);
         due("no what", x.judged(3), NONE);
         due("no what", x.judged(-1), NONE);
     }
@@ -717,6 +774,12 @@ public final class PromisesTest {
         x.boy(0, 3, -1);
         due("three, snake: 2 takes two", x.first(1), 5 - 4);
         due("three, twos: 1 takes two", x.first(2), 5 - 28);
+        x = wallOf(0, 1, 2, 9, 10, 20);
+        x.play(3);
+        due("20 and 2, less 10 and 1", x.first(0), 11);
+        due("20 and 0, less 10 and 1", x.first(1), 9);
+        due("20 and 0, less 10 and 9", x.first(2), 1);
+        due("fairest", x.fairest(), 2);
     }
 
     // ---- even sides, cutting, trades
@@ -757,11 +820,15 @@ public final class PromisesTest {
         due("none", x.cut(0, 1, 2), NONE);
         due("none ahead of bad", x.cut(0, 0, -1), NONE);
         due("bad", x.cut(0, 0, 0), BAD);
+        x = wallOf(4, 4, 4);
+        due("of several the first side the least", x.cut(0, 1, 0), 1);
+        due("of several the first side the least", x.cut(0, 1, 1), 1);
+        x = wallOf(0, 0);
+        due("nobody is worth anything", x.cut(0, 1, 0), 0);
+        due("nobody is worth anything: b takes nobody", x.cut(0, 1, 1), 3);
         x = wallOf(4, 4);
         due("of like ones b takes the first", x.cut(0, 1, 0), 1);
         due("of like ones b takes the first", x.cut(0, 1, 1), 2);
-        settle(x, 0, "lack 30 0");
-        due("of several the first side the least", x.cut(0, 1, 0), 1);
         settle(x, 1, "mark 9 n=0;mark 9 n=1");
         settle(x, 0, "mark 9 n=0");
         due("what is left of the better one", x.cut(0, 1, 1), 2);
@@ -895,6 +962,15 @@ public final class PromisesTest {
         x.game(true);
         orderIs(x, 0, 0, 2, 0, 1);
         orderIs(x, 1, 0, 0, 1, 2);
+        x = wallOf(1, 2);
+        told(x, 0, 0);
+        x.game(true);
+        orderIs(x, 0, 0, 0, 1);
+        told(x, 0, 1);
+        x.game(true);
+        orderIs(x, 0, 1, 0, 1);
+        x.game(true);
+        orderIs(x, 0, 1, 1, 0);
         x = summers();
         orderIs(x, 0, 1, 0, 1, 2);
         orderIs(x, 1, 0, 0, 2, 1);
@@ -1033,8 +1109,9 @@ public final class PromisesTest {
         x.turns(3);
         x.told(2);
         x.told(1);
-        x.way(2, 5);
-        x.list(2, 1);
+        for (int captain = 0; captain < 3; captain++) {
+            told(x, captain, captain == 0 ? 2 : 1);
+        }
         x.give(0, 2);
         x.row(1);
         feed(x, "lack ");
@@ -1049,6 +1126,8 @@ public final class PromisesTest {
             x.told(-1);
             x.told(0);
             x.way(2, 4);
+            x.list(0, -1);
+            x.list(1, 0);
             x.list(2, -1);
             x.row(1);
             x.yard();
@@ -1061,12 +1140,16 @@ public final class PromisesTest {
             due("undo", x.undo(), 3);
             due("all is as it was", look(x).equals(then) ? 1 : 0, 1);
             due("a told row", x.turn(0), 2);
+            due("a list", x.picks(0), 2);
+            due("a list", x.picks(1), 1);
             due("a list", x.picks(2), 1);
         }
         due("the tape", x.feed(0x312030L, 3), 8);
         due("the tape", x.yard(), 1);
         due("the row", x.row(0), 2);
-        due("the list", x.list(2, 0), 2);
+        due("a list", x.list(0, 0), 2);
+        due("a list", x.list(1, 0), 2);
+        due("a list", x.list(2, 0), 2);
         x.act(0, 0, 1);
         due("undo", x.undo(), 3);
         due("the trace stays", x.count(6), 1);
