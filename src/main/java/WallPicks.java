@@ -525,9 +525,9 @@ public final class WallPicks {
         int allOf(int what, int sign, int number) {
             int mask = 0;
             for (int boy = 0; boy < boys; boy++) {
-                if (Integer.compare(traitOf(boy, what), number) == sign) {
-                    mask |= 1 << boy;
-                }
+                int trait = traitOf(boy, what);
+                int found = trait < number ? -1 : trait > number ? 1 : 0;
+                mask |= found == sign ? 1 << boy : 0;
             }
             return mask;
         }
