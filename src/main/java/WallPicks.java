@@ -206,9 +206,7 @@ public final class WallPicks {
     // ---- the best
 
     public int best() {
-        ends.goBy(wall.turnKind, false);
-        int state = ends.stateNow();
-        return ends.choose(state, ends.takerAt(state), 0);
+        return ends.bestFor(wall.taker(wall.turnKind, wall.taken()));
     }
 
     public int value(int captain) {
@@ -649,6 +647,10 @@ public final class WallPicks {
             return everybody() & ~(sideOf(0) | sideOf(1) | sideOf(2));
         }
 
+        int taken() {
+            return boys - Integer.bitCount(left());
+        }
+
         // -- summers: of each pick the captain times 8 and the boy
 
         void addSummer(Row took) {
@@ -905,8 +907,17 @@ public final class WallPicks {
             return isIn(t, takers.length) ? takers[t] : 0;
         }
 
-        /** The boy whom a captain takes best in a state; -5: nobody is left. */
-        int choose(int state, int captain, int depth) {
+        /** The boy whom a captain takes best now, whoever's turn it is; -5: nobody is left. */
+        int bestFor(int captain) {
+            goBy(wall.turnKind, false);
+            return choose(stateNow(), captain, 0);
+        }
+
+        int valueAt(int state, int captain) {
+            return wall.worthTo(captain, sideIn(endOf(state, 0), captain));
+        }
+
+        private int choose(int state, int captain, int depth) {
             int left = wall.everybody() & ~takenIn(state);
             int chosen = NOBODY;
             int most = LEAST;
@@ -921,10 +932,6 @@ public final class WallPicks {
                 }
             }
             return chosen;
-        }
-
-        int valueAt(int state, int captain) {
-            return wall.worthTo(captain, sideIn(endOf(state, 0), captain));
         }
 
         private int endOf(int state, int depth) {
@@ -997,7 +1004,7 @@ public final class WallPicks {
                 case GREEDY: return dearest(captain, left);
                 case AHEAD: return dearest(captainAhead(captain, left), left);
                 case FRIEND: return dearest(captain, friendsAmong(captain, left));
-                case BEST: return bestFor(captain);
+                case BEST: return ends.bestFor(captain);
                 case TOLD: return firstListed(captain, left);
                 case KIND: return dearest(captain, oftenestLast(left));
                 default: return least(left);
@@ -1032,18 +1039,12 @@ public final class WallPicks {
 
         /** Whose dearest is taken away: the next one's, or his own, if that one can't take any. */
         private int captainAhead(int captain, int left) {
-            int leftCount = Integer.bitCount(left);
-            return leftCount < 2 ? captain : wall.taker(wall.turnKind, wall.boys - leftCount + 1);
+            return Integer.bitCount(left) < 2 ? captain : wall.taker(wall.turnKind, wall.taken() + 1);
         }
 
         private int friendsAmong(int captain, int left) {
             int own = wall.friendsOf(captain) & left;
             return own == 0 ? left : own;
-        }
-
-        private int bestFor(int captain) {
-            ends.goBy(wall.turnKind, false);
-            return ends.choose(ends.stateNow(), captain, 0);
         }
 
         private int firstListed(int captain, int left) {
