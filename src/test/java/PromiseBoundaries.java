@@ -533,6 +533,10 @@ final class PromiseBoundaries extends Sentences {
             for (int what = 0; what < 3; what++) {
                 due("of a row " + what, x.judged(what), slipped[what]);
             }
+            x.row(-1);
+            for (int what = 0; what < 3; what++) {
+                due("of a row that is empty again " + what, x.judged(what), none[what]);
+            }
             refusedFor(NO_WHAT, "judged", NONE, WallPicks::judged);
         });
     }
@@ -822,6 +826,36 @@ final class PromiseBoundaries extends Sentences {
             due("of a full wall", x.undo(), 8);
             due("all are left", x.count(4), 8);
         });
+        promise(35, "All is as THE IMAGE", () -> {
+            nothingStays(0, 0, 0, 0);
+            nothingStays(3, 3 + 1, 4, 4);
+        });
+    }
+
+    /** What was reckoned of six boys says nothing of so few as the image has. */
+    private static void nothingStays(int few, int value, int cut, int even) {
+        WallPicks x = new WallPicks();
+        for (int i = 1; i <= few; i++) {
+            x.boy(0, i, -1);
+        }
+        x.image();
+        for (int i = few + 1; i <= 6; i++) {
+            x.boy(0, i, -1);
+        }
+        for (int first = 3; first < 6; first++) {
+            picksAs(x, 0, first);
+            x.game(true);
+        }
+        x.play(2);
+        due("slips of six", x.order(0, -1), 3);
+        due("value of six", x.value(0), 6 + 4 + 2);
+        due("cut of six", x.cut(0, 1, 1) > 0 ? 1 : 0, 1);
+        due("even of six", x.even(0) > 0 ? 1 : 0, 1);
+        due("undo", x.undo(), few);
+        due("slips of " + few, x.order(0, -1), 0);
+        due("value of " + few, x.value(0), value);
+        due("cut of " + few, x.cut(0, 1, 1), cut);
+        due("even of " + few, x.even(0), even);
     }
 
     private static void counts() {

@@ -308,6 +308,13 @@ final class TermBoundaries extends Sentences {
                 }
             }
             isFault("mark 1 p=11" + "|p=1".repeat(27) + "|", 120);
+            WallPicks x = new WallPicks();
+            String longer = "lack 1 0;lack 20 0";
+            due("a longer text ahead", yardOf(x, longer), 0);
+            for (int size = 1; size < longer.length() - 2; size++) {
+                int want = size == 8 ? 1 : -10 - size;
+                due("its first " + size + " bytes, once more", yardOf(x, longer.substring(0, size)), want);
+            }
         });
         term(1, "YARDS are numbered from 0 on, 6 at most", () -> {
             WallPicks x = after(TermBoundaries::sixYards);
@@ -540,6 +547,18 @@ final class TermBoundaries extends Sentences {
             due("of those left once", x.picks(0), 1);
             x.give(1, 1);
             due("of those left never", x.picks(0), 2);
+            x = wallOf(3, 2, 1);
+            x.way(0, 6);
+            lastIs(x, 1);
+            lastIs(x, 2);
+            due("once each, but a stronger one never", x.picks(0), 1);
+            lastIs(x, 1);
+            due("twice, and the last one once", x.picks(0), 1);
+            lastIs(x, 2);
+            lastIs(x, 2);
+            due("thrice, but stronger ones less often", x.picks(0), 2);
+            x.give(2, 1);
+            due("twice, but a stronger one never", x.picks(0), 1);
         });
         term(2, "TOLD: the first of his LIST (8 at most, as they come) that is LEFT (none: the least).", () -> {
             WallPicks x = wallOf(1, 2, 3, 4);
@@ -635,6 +654,9 @@ final class TermBoundaries extends Sentences {
             actIs(3, 2, LOW, -1);
             actIs(3, 2, 357913942, LOW + 3);
             actIs(4, 0, HIGH, LOW + 1);
+            actIs(4, 0, 4, 4);
+            actIs(4, 0, -1, 1);
+            actIs(4, 0, -2, -2);
             actIs(5, 2, LOW, -7);
             actIs(6, 1, LOW, LOW + 1);
         });
@@ -695,6 +717,26 @@ final class TermBoundaries extends Sentences {
             settle(x, 0, "lack 99 1");
             due("of like ones below nothing", x.best(), 0);
         });
+        term(3, "VALUE of SIDES as they are to a CAPTAIN: what his SIDE is worth to him at the end so.", () -> {
+            valuesAre(new WallPicks(), 0, 0, -1001);
+            WallPicks x = wallOf(1, 2, 3, 4, 5, 6);
+            x.play(3);
+            valuesAre(x, 6 + 3, 5 + 2, 4 + 1);
+            x.give(5, 2);
+            x.give(4, 1);
+            x.give(3, 0);
+            valuesAre(x, 4 + 3, 5 + 2, 6 + 1);
+            x.give(3, 2);
+            valuesAre(x, 3, 5 + 2, 6 + 4 + 1);
+            settle(x, 2, "both 50 3 5;lack 9 1");
+            valuesAre(x, 3, 5 + 2, 6 + 4 + 50 - 9 + 1);
+            x.boy(1, 9, -1);
+            valuesAre(x, 9 + 1, 5 + 3, 6 + 4 + 50 - 9 + 2);
+            for (int boy = 0; boy < 7; boy++) {
+                x.give(boy, 2);
+            }
+            valuesAre(x, 0, 0, 21 + 50 + 9);
+        });
         term(3, "a ROW of picks told by hand (BOYS as they come, 8 at most, by TURNS from the beginning)", () -> {
             WallPicks x = after(TermBoundaries::eightPicks);
             due("the eighth can't be", x.judged(0), 7);
@@ -722,6 +764,9 @@ final class TermBoundaries extends Sentences {
             x.row(-1);
             x.row(7);
             due("the first pick", x.judged(0), 0);
+            x.row(0);
+            x.row(0);
+            due("the first pick, and another", x.judged(0), 0);
             x.row(-1);
             x.row(0);
             x.row(0);
@@ -744,11 +789,20 @@ final class TermBoundaries extends Sentences {
             judgedIs(wallOf(9, 5, 4, 1), 3, 2, 3, 0, 1, 3, 3);
             judgedIs(wallOf(5, 5), NOBODY, NOBODY, 0, 1);
             judgedIs(wallOf(5, 4), NOBODY, 0, 1, 1);
+            WallPicks x = wallOf(5, 5, 5);
+            settle(x, 0, "mark 10 n=1");
+            judgedIs(x, NOBODY, 0, 10, 0);
+            x.row(-1);
+            judgedIs(x, NOBODY, NOBODY, 0, 1, 2, 0);
+            settle(x, 1, "mark 7 n=2");
+            x.row(-1);
+            judgedIs(x, NOBODY, 1, 7, 1, 0, 2);
         });
         term(3, "FIRST by TURNS: VALUE of empty SIDES to CAPTAIN 0, less what it would be, "
             + "if in these TURNS CAPTAIN 1 took for 0, and 0 for 1.", () -> {
             firstsAre(new WallPicks(), 0, 0, 0);
             firstsAre(wallOf(7), 7, 7, 7);
+            firstsAre(wallOf(0, 7), 7, 7, 7);
             firstsAre(wallOf(4, 4), 0, 0, 0);
             firstsAre(wallOf(5, 5, 1), 1, -1, -1);
             WallPicks x = wallOf(5, 5, 1);
@@ -790,6 +844,12 @@ final class TermBoundaries extends Sentences {
         due("judged 2", x.judged(2), loss);
     }
 
+    private static void valuesAre(WallPicks x, int... want) {
+        for (int captain = 0; captain < want.length; captain++) {
+            due("value to " + captain, x.value(captain), want[captain]);
+        }
+    }
+
     private static void firstsAre(WallPicks x, int... want) {
         for (int turns = 0; turns < 3; turns++) {
             due("first by " + turns, x.first(turns), want[turns]);
@@ -821,6 +881,9 @@ final class TermBoundaries extends Sentences {
             x = wallOf(1, 1, 1);
             settle(x, 0, "mark 9 n=2");
             cutIs(x, 3, 4);
+            x = wallOf(4, 4);
+            settle(x, 0, "mark 9 n=0");
+            cutIs(x, 1, 2);
         });
         term(3, "b takes the one that is worth more to him (of like ones the first), a has the other one", () -> {
             cutIs(wallOf(4, 4), 1, 2);
@@ -964,6 +1027,16 @@ final class TermBoundaries extends Sentences {
             due("the last one left nobody", x.thought(0, 2, 1), 0);
             due("another took him", x.thought(1, 0, 1), 0);
             due("who took nobody", x.thought(2, 0, 1), 0);
+            x.boy(0, 4, -1);
+            due("one who came behind them", x.thought(0, 0, 3), 0);
+            due("one who came behind them", x.thought(0, 3, 0), 0);
+            x = after(TermBoundaries::eight);
+            picksAs(x, 0, 7);
+            x.game(true);
+            due("0 took the last as the first", x.thought(0, 7, 0), 1);
+            for (int boy = 0; boy < 7; boy++) {
+                due("who was not left then", x.thought(boy % 2 == 0 ? 1 : 0, boy, 7), 0);
+            }
         });
         term(4, "ORDER of a CAPTAIN (of 6 BOYS at most, else -9)", () -> {
             WallPicks x = wallOf(1, 2, 3, 4, 5, 6);
@@ -1031,7 +1104,7 @@ final class TermBoundaries extends Sentences {
         History[] changes = {
             x -> x.boy(0, 7, 0), x -> x.play(3), x -> x.play(2), x -> x.feed('k', 1), WallPicks::yard,
             TermBoundaries::anotherYard, x -> x.has(0, 1), x -> x.has(1, -1), x -> x.turns(1), x -> x.told(1),
-            x -> x.told(-1), x -> x.way(0, 4), x -> x.way(1, 0), x -> x.list(2, 1), x -> x.list(1, -1),
+            x -> x.told(-1), x -> x.way(0, 4), x -> x.way(1, 0), x -> x.list(0, 1), x -> x.list(2, 1), x -> x.list(1, -1),
             x -> x.give(0, -1), x -> x.give(1, 0), x -> x.game(false), x -> x.game(true), x -> x.row(0),
             x -> x.row(-1),
         };
