@@ -829,6 +829,15 @@ final class PromiseBoundaries extends Sentences {
         promise(35, "All is as THE IMAGE", () -> {
             nothingStays(0, 0, 0, 0);
             nothingStays(3, 3 + 1, 4, 4);
+            WallPicks x = wallOf(1, 2);
+            yardOf(x, "mark 50 n=0");
+            yardOf(x, "mark 40 n=1");
+            x.image();
+            x.has(0, 0);
+            due("value by one yard", x.value(0), 51);
+            x.undo();
+            x.has(0, 1);
+            due("value by another one", x.value(0), 42);
         });
     }
 

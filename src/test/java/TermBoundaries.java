@@ -1058,6 +1058,22 @@ final class TermBoundaries extends Sentences {
             }
             due("one slip by each but the first", x.order(0, -1), 2);
             due("the other one's", x.order(1, -1), 0);
+            x = wallOf(1, 2, 3);
+            for (int i = 0; i < 11; i++) {
+                x.game(true);
+            }
+            orderIs(x, 0, 0, 0, 1, 2);
+            picksAs(x, 0, 1);
+            x.game(true);
+            due("summers", x.count(3), 12);
+            orderIs(x, 0, 1, 0, 1, 2);
+            x = wallOf(1, 2, 3);
+            picksAs(x, 0, 2);
+            for (int i = 0; i < 12; i++) {
+                due("no slip in " + i + " summers", x.order(0, -1), 0);
+                x.game(true);
+            }
+            orderIs(x, 0, 0, 2, 0, 1);
         });
         term(4, "of several the first as a row", () -> {
             WallPicks x = wallOf(1, 2, 3);
