@@ -1149,7 +1149,8 @@ public final class WallPicks {
         void makeCut(int a, int b) {
             int all = wall.everybody();
             int most = LEAST;
-            for (int side = 0; side <= (all & ~side); side++) {
+            // The first side is the lesser one as bits: beyond half of all bits it never is.
+            for (int side = 0; side <= all / 2; side++) {
                 int other = all & ~side;
                 int left = wall.worthTo(b, side) >= wall.worthTo(b, other) ? other : side;
                 int worth = wall.worthTo(a, left);

@@ -338,12 +338,15 @@ final class PlainWall {
         List<List<Integer>> orders = new ArrayList<>();
         addOrders(orders, new ArrayList<>());
         List<Integer> found = null;
+        int fewest = 0;
         for (List<Integer> order : orders) {
-            if (found == null || slips(captain, order) < slips(captain, found)) {
+            int slips = slips(captain, order);
+            if (found == null || slips < fewest) {
                 found = order;
+                fewest = slips;
             }
         }
-        return i == -1 ? slips(captain, found) : found.get(i);
+        return i == -1 ? fewest : found.get(i);
     }
 
     int last(int boy) {
@@ -628,10 +631,10 @@ final class PlainWall {
         for (List<int[]> picks : now.summers) {
             for (int i = 0; i < picks.size(); i++) {
                 boolean slip = false;
-                for (int j = i + 1; j < picks.size(); j++) {
+                for (int j = i + 1; j < picks.size() && picks.get(i)[0] == captain; j++) {
                     slip |= order.indexOf(picks.get(j)[1]) < order.indexOf(picks.get(i)[1]);
                 }
-                slips += slip && picks.get(i)[0] == captain ? 1 : 0;
+                slips += slip ? 1 : 0;
             }
         }
         return slips;

@@ -25,12 +25,18 @@ final class PlainYard {
         if (isYard(text)) {
             return -1;
         }
-        for (int size = 1; size <= text.length(); size++) {
-            if (!canGoOn(text.substring(0, size))) {
-                return size - 1;
+        // What can go on can go on from each of its beginnings, so the longest such beginning is found by halves.
+        int most = 0;
+        int beyond = text.length() + 1;
+        while (beyond - most > 1) {
+            int size = (most + beyond) / 2;
+            if (canGoOn(text.substring(0, size))) {
+                most = size;
+            } else {
+                beyond = size;
             }
         }
-        return text.length();
+        return most;
     }
 
     private static boolean canGoOn(String start) {

@@ -1,10 +1,15 @@
 import java.lang.reflect.Constructor;
 import java.lang.reflect.Field;
+import java.lang.reflect.InvocationTargetException;
 import java.lang.reflect.Method;
 import java.lang.reflect.Modifier;
 import java.nio.charset.StandardCharsets;
 import java.nio.file.Files;
 import java.nio.file.Path;
+import java.util.ArrayList;
+import java.util.Arrays;
+import java.util.Comparator;
+import java.util.List;
 import java.util.Set;
 import java.util.TreeSet;
 import java.util.regex.Matcher;
@@ -25,6 +30,10 @@ public final class RulesTest {
         "\\bimport (?!java\\.util\\.(Arrays|ArrayList|List|Iterator);)", "[^\\x00-\\x7f]", "\\bprotected\\b",
         "\\b(equals|hashCode|toString)\\b", "\\b(MIN|MAX)_VALUE\\b", "\\bString\\s+\\w+\\s*\\+=", "\"\\s*\\+|\\+\\s*\"",
     };
+    private static final int[] NUMBERS = {
+        Integer.MIN_VALUE, Integer.MIN_VALUE + 1, -256, -9, -2, -1, 0, 1, 2, 3, 4, 5, 6, 7, 8, 9, 19, 20, 21, 119, 120,
+        255, 256, Integer.MAX_VALUE - 1, Integer.MAX_VALUE,
+    };
     private static final int LONGEST_METHOD = 60;
     private static final int MOST_CLASSES = 12;
     private static final int MOST_FIELDS = 20;
@@ -41,6 +50,8 @@ public final class RulesTest {
         String text = Files.readString(Path.of("src/main/java/WallPicks.java"), StandardCharsets.UTF_8);
         words(text);
         methods(text);
+        neverThrows();
+        stampsRunOut();
         System.out.println("RulesTest: " + passed + " passed, " + failed + " failed");
         if (failed > 0) {
             System.exit(1);
@@ -120,5 +131,92 @@ public final class RulesTest {
                 begun = -1;
             }
         }
+    }
+
+    // ---- rule 7: no call throws, for any arguments in any state, behind the 512th one either
+
+    private static void neverThrows() throws Exception {
+        WallPicks empty = new WallPicks();
+        WallPicks full = new WallPicks();
+        for (int i = 0; i < 8; i++) {
+            full.boy(i % 4, i * 5 % 21, i % 4 - 1);
+        }
+        for (int i = 0; i < 6; i++) {
+            full.feed(0x6c61636b20392030L + i % 4, 8);
+            full.has(i % 3, full.yard());
+        }
+        for (int i = 0; i < 12; i++) {
+            full.game(true);
+        }
+        full.play(3);
+        for (WallPicks x : new WallPicks[] {empty, full}) {
+            for (int round = 0; round < 8; round++) {
+                for (Method method : callsByName()) {
+                    settle(x, round);
+                    callWithAll(x, method, new Object[method.getParameterCount()], 0);
+                }
+            }
+        }
+    }
+
+    private static void settle(WallPicks x, int round) {
+        x.turns(round % 4);
+        for (int captain = 0; captain < 3; captain++) {
+            x.way(captain, round == 7 ? 0 : round);
+            x.told(captain);
+            x.list(captain, round);
+        }
+        x.play(2 + round % 2);
+        if (round > 2) {
+            x.game(true);
+        }
+    }
+
+    /** In the same order each time, as the calls change what the next ones find. */
+    private static List<Method> callsByName() {
+        List<Method> calls = new ArrayList<>();
+        for (Method method : WallPicks.class.getDeclaredMethods()) {
+            if (Modifier.isPublic(method.getModifiers())) {
+                calls.add(method);
+            }
+        }
+        calls.sort(Comparator.comparing(Method::getName));
+        return calls;
+    }
+
+    private static void callWithAll(WallPicks x, Method method, Object[] arguments, int from) throws Exception {
+        if (from == arguments.length) {
+            try {
+                method.invoke(x, arguments);
+                passed++;
+            } catch (InvocationTargetException thrown) {
+                holds(method.getName() + Arrays.toString(arguments) + " throws nothing", false);
+            }
+            return;
+        }
+        Class<?> type = method.getParameterTypes()[from];
+        for (int number : NUMBERS) {
+            arguments[from] = number;
+            if (type == long.class) {
+                arguments[from] = number * 0x100000001L;
+            } else if (type == boolean.class) {
+                arguments[from] = number > 0;
+            }
+            callWithAll(x, method, arguments, from + 1);
+        }
+    }
+
+    /** What is kept by stamps has only so many: no call fails to end or throws when they are gone. */
+    private static void stampsRunOut() {
+        WallPicks x = new WallPicks();
+        x.boy(0, 1, -1);
+        x.boy(0, 2, -1);
+        for (int i = 0; i < 12000; i++) {
+            x.fairest();
+        }
+        for (int i = 0; i < 6; i++) {
+            x.boy(0, i, -1);
+        }
+        holds("there is a best one of eight", x.best() >= 0);
     }
 }
